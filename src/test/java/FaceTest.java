@@ -40,13 +40,20 @@ public final class FaceTest {
         Bench.part("methods");
         TreeSet<String> shown = new TreeSet<>();
         for (Method method : AccountMachine.class.getDeclaredMethods()) {
-            if (!Modifier.isPrivate(method.getModifiers())) {
+            if (Modifier.isPrivate(method.getModifiers())) {
+                boolean shared = METHODS.stream().anyMatch(face -> face.contains(" " + method.getName() + "["));
+                Bench.due(method + " bears the name of a public one", shared, false);
+            } else {
                 Bench.due(method + "'s modifiers", method.getModifiers(), Modifier.PUBLIC);
                 shown.add(method.getReturnType() + " " + method.getName()
                         + Arrays.toString(method.getParameterTypes()));
             }
         }
         Bench.due("the methods are those of the document: " + shown, shown.equals(new TreeSet<>(METHODS)), true);
+        for (Class<?> inside : AccountMachine.class.getDeclaredClasses()) {
+            Bench.due(inside + " is static", Modifier.isStatic(inside.getModifiers()), true);
+            Bench.due(inside + " is not public", Modifier.isPublic(inside.getModifiers()), false);
+        }
         Constructor<?>[] constructors = AccountMachine.class.getDeclaredConstructors();
         Bench.due("the number of constructors", constructors.length, 1);
         Bench.due("its parameters", constructors[0].getParameterCount(), 0);

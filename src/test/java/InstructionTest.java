@@ -38,6 +38,7 @@ public final class InstructionTest {
         dueReckoned(1L << 62, Integer.MIN_VALUE, "COPY 1 3", "MULN 1 -2147483648");
         dueReckoned(Long.MIN_VALUE, Integer.MIN_VALUE, "COPY 1 3", "MULN 1 -2147483648", "MULN 1 2");
         dueReckoned(0, Integer.MIN_VALUE, "COPY 1 3", "MULN 1 -2147483648", "MULN 1 4");
+        dueReckoned(7, 7, "COPY 1 3", "DIVN 1 1");
         dueReckoned(3, 7, "COPY 1 3", "DIVN 1 2");
         dueReckoned(-3, -7, "COPY 1 3", "DIVN 1 2");
         dueReckoned(-3, 7, "COPY 1 3", "DIVN 1 -2");

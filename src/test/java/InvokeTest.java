@@ -146,6 +146,7 @@ public final class InvokeTest {
         b.program(1, invoker(2, 0, 0, 0));
         b.program(2, invoker(1, 0, 0, 0));
         Bench.due("1, 2, 1", b.run(99, 1, 0), AGAIN);
+        Bench.due("units() when the order of the transaction is met again", b.x.units(), 99 - 2 * 11);
         b.program(2, invoker(3, 0, 0, 0));
         b.program(3, invoker(1, 0, 0, 0));
         Bench.due("1, 2, 3, 1", b.run(99, 1, 0), AGAIN);

@@ -201,5 +201,15 @@ public final class OrderTest {
             Bench.due("account(7, " + none + ")", b.x.account(7, none), NONE);
         }
         Bench.due("account(7, 3)", b.x.account(7, 3), NONE);
+        // The words of one account end before those of the next.
+        b.own(6, 3, 4);
+        b.own(5, 3, 1);
+        Bench.due("run", b.run(9, 3, 0, 6, 2), 0);
+        Bench.due("data(5, 4)", b.x.data(5, 4), 0);
+        Bench.due("data(6, 3)", b.x.data(6, 3), 0);
+        Bench.due("data(6, 4)", b.x.data(6, 4), 0);
+        Bench full = new Bench();
+        full.own(7, 1, 4);
+        Bench.due("data(7, 4)", full.x.data(7, 4), 0);
     }
 }

@@ -1,3 +1,5 @@
+import java.util.ArrayList;
+import java.util.Collections;
 import java.util.List;
 
 /** What the tests share: an object to test, a small assembler for its code, and a count of wrong answers. */
@@ -46,11 +48,36 @@ final class Bench {
             }
             int kind = KINDS.indexOf(words[0]);
             int[] values = new int[128];
+            // What a kind does not use may be anything that load lets through, and must not count.
+            values['d'] = 7;
+            values['s'] = 8;
+            values['o'] = 12345;
+            values['n'] = -77;
             for (int i = 0; i < PARTS[kind].length(); i++) {
                 values[PARTS[kind].charAt(i)] = Integer.parseInt(words[i + 1]);
             }
             x.code(p, kind, values['d'], values['s'], values['o'], values['n']);
         }
+    }
+
+    /** The lines that set a register to a long, which no single SET can do. */
+    static String[] wide(int register, long value) {
+        int lower = (int) value;
+        return new String[] {"SET " + register + " " + (int) ((value - lower) >> 32), "LEFT " + register + " 32",
+            "ADDN " + register + " " + lower};
+    }
+
+    /** Several lines, or rows of lines, as one row. */
+    static String[] lines(Object... parts) {
+        List<String> all = new ArrayList<>();
+        for (Object each : parts) {
+            if (each instanceof String[] row) {
+                Collections.addAll(all, row);
+            } else {
+                all.add((String) each);
+            }
+        }
+        return all.toArray(new String[0]);
     }
 
     /** Makes the lines the whole code of a program, and loads it. */

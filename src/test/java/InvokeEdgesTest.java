@@ -438,6 +438,9 @@ public final class InvokeEdgesTest {
         Bench.due("NO_SLOT before LIMIT", b.run(200, 1, 2, 0, 0), NO_SLOT);
         b.program(2, invoker(7, 0, 0, 0));
         Bench.due("NO_PROGRAM before LIMIT", b.run(200, 1, 2, 0, 0), NO_PROGRAM);
+        b.program(1, "SET 5 101", "STORE 1 3 5", "SET 1 0", "SET 2 0", "INVOKE", "END");
+        Bench.due("METER of INVOKE before handing back", b.run(9, 1, 0, 0, 2), METER);
+        Bench.due("handing back before METER of the system", b.run(10, 1, 0, 0, 2), AccountMachine.UNEVEN);
     }
 
     private static void handedBack() {

@@ -150,6 +150,7 @@ public final class InvokeEdgesTest {
     private static void slots() {
         firstWithoutBit4Ends();
         noMoreThanFour();
+        bitsOfASlot();
         noSlot();
     }
 
@@ -193,6 +194,26 @@ public final class InvokeEdgesTest {
             b.program(1, Bench.lines(Bench.wide(2, upper << 32), "SET 1 2", "INVOKE", "END"));
             Bench.due("run", b.run(99, 1, 0, 4, 0, 5, 0, 6, 0, 7, 0), 0);
             b.dueLog(0);
+        }
+    }
+
+    private static void bitsOfASlot() {
+        Bench.part("bits 0, 1 a slot; 2 SIGNED; 3 WRITABLE; 4 there is such a slot; and 5 to 7 nothing");
+        for (int upper = 0; upper < 256; upper += 32) {
+            Bench b = new Bench();
+            // Logs how many slots it has, and the account and the marks of the first one.
+            b.program(2, "COPY 5 1", "COPY 1 2", "LOG", "IFN 2 0 4", "LOAD 1 5 0", "LOG", "LOAD 1 5 1", "LOG", "END");
+            b.program(1, "COPY 2 3", "SET 1 2", "INVOKE", "END");
+            for (int lower = 0; lower < 32; lower++) {
+                int signed = (lower & SIGNED) != 0 ? 1 : 0;
+                int writable = (lower & WRITABLE) != 0 ? 2 : 0;
+                Bench.due("run", b.run(50, 1, upper + lower, 4, 3, 5, 3, 6, 3, 7, 3), 0);
+                if ((lower & THERE) != 0) {
+                    b.dueLog(1, 4 + (lower & 3), signed + writable);
+                } else {
+                    b.dueLog(0);
+                }
+            }
         }
     }
 
